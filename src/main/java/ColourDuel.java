@@ -361,7 +361,8 @@ public final class ColourDuel {
     }
 
     private boolean passWins() {
-        return board.passes > 0 && value() == 1;
+        int behind = valueIn(solver.ofPartsIn(board.free)) ^ board.passValue() ^ 1;
+        return board.passes > 0 && behind == 0;
     }
 
     /** The move that bestMove tells of, in a game that is not over. */
@@ -409,6 +410,18 @@ public final class ColourDuel {
     private static void add(int[] row, int index, int set) {
         if (index >= 0 && index < row.length) {
             row[index] |= set;
+        }
+    }
+
+    private static void copyRow(int[] from, int[] to) {
+        for (int k = 0; k < to.length && k < from.length; k++) {
+            to[k] = from[k];
+        }
+    }
+
+    private static void clearRow(int[] row) {
+        for (int k = 0; k < row.length; k++) {
+            row[k] = 0;
         }
     }
 
@@ -497,7 +510,7 @@ public final class ColourDuel {
             colours = 1;
             vertices = 1;
             free = 1;
-            listed[0] = 1;
+            add(listed, 0, 1);
         }
 
         void takeFrom(Board other) {
@@ -508,14 +521,10 @@ public final class ColourDuel {
             free = other.free;
             made = other.made;
             latest = other.latest;
-            for (int v = 0; v < near.length; v++) {
-                near[v] = at(other.near, v);
-            }
-            for (int c = 0; c < MOST_COLOURS; c++) {
-                listed[c] = other.listed[c];
-                painted[c] = other.painted[c];
-                banned[c] = other.banned[c];
-            }
+            copyRow(other.near, near);
+            copyRow(other.listed, listed);
+            copyRow(other.painted, painted);
+            copyRow(other.banned, banned);
         }
 
         // -- making the graph
@@ -527,14 +536,10 @@ public final class ColourDuel {
             free = 0;
             made = 0;
             latest = null;
-            for (int v = 0; v < near.length; v++) {
-                near[v] = 0;
-            }
-            for (int c = 0; c < MOST_COLOURS; c++) {
-                listed[c] = 0;
-                painted[c] = 0;
-                banned[c] = 0;
-            }
+            clearRow(near);
+            clearRow(listed);
+            clearRow(painted);
+            clearRow(banned);
         }
 
         boolean isFull() {
@@ -547,7 +552,7 @@ public final class ColourDuel {
 
         void addVertex(int list) {
             int bit = 1 << vertices;
-            for (int c = 0; c < MOST_COLOURS; c++) {
+            for (int c = 0; c < listed.length; c++) {
                 if (has(list, c)) {
                     listed[c] |= bit;
                 }
@@ -618,10 +623,11 @@ public final class ColourDuel {
             int reached = start & set;
             int fresh = reached;
             for (int k = 0; k < MOST_VERTICES && fresh != 0; k++) {
-                int vertex = least(fresh);
-                int found = neighbours(vertex) & set & ~reached;
+                int bit = fresh & -fresh;
+                int vertex = Integer.bitCount(bit - 1);
+                int found = vertex < near.length ? near[vertex] & set & ~reached : 0;
                 reached |= found;
-                fresh = fresh & ~(1 << vertex) | found;
+                fresh = fresh & ~bit | found;
             }
             return reached;
         }
@@ -747,20 +753,17 @@ public final class ColourDuel {
             int rest = partWith(vertex) & ~(1 << vertex);
             free &= ~(1 << vertex);
             for (int c = 0; c < banned.length; c++) {
-                banned[c] &= ~(rest | 1 << vertex);
+                banned[c] &= ~rest;
             }
             add(banned, colour, rest);
             add(painted, colour, 1 << vertex);
-            remember(vertex, colour, partsIn(rest));
+            latest = new Move(latest, vertex, colour, partsIn(free), partsIn(rest));
+            made++;
         }
 
         void spendPass() {
             passes--;
-            remember(NONE, NONE, NONE);
-        }
-
-        private void remember(int vertex, int colour, int pieces) {
-            latest = new Move(latest, vertex, colour, partsIn(free), pieces);
+            latest = new Move(latest, NONE, NONE, partsIn(free), NONE);
             made++;
         }
 
@@ -942,11 +945,7 @@ public final class ColourDuel {
                     }
                 }
             }
-            return values == 0 ? 0 : answerOf(leastMissing(values), longest, shortest);
-        }
-
-        private static int leastMissing(int values) {
-            return least(~values);
+            return values == 0 ? 0 : answerOf(least(~values), longest, shortest);
         }
     }
 
@@ -987,7 +986,6 @@ public final class ColourDuel {
         /** Reads a board into the draft and empties the buffer; answers the error, or 0. */
         int readText(int textLength) {
             length = textLength;
-            error = 0;
             errorAt = NONE;
             end = 0;
             advance();

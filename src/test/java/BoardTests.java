@@ -95,6 +95,8 @@ public final class BoardTests {
         x.setPasses(1);
         Check.due("passes open it again", x.count(8), 0);
         Check.due("and nobody has won", x.count(9), ColourDuel.NONE);
+        ColourDuel first = Check.board("colours 1; vertex; vertex; edge 0 1; lay 1 a;");
+        Check.due("the first vertex is stuck", first.count(11), 1);
         ColourDuel full = Check.board("colours 1; vertex; vertex; vertex; lay 2a; lay 0a; lay 1a;");
         counts("full board", full, 3, 0, 1, 0, 0, 0, 1, 3, 1, 0, 0, 0, 0);
     }

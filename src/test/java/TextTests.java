@@ -12,6 +12,7 @@ public final class TextTests {
         ends();
         afterAnError();
         moveOrder();
+        startsAnew();
         writing();
         Check.end("TextTests");
     }
@@ -63,6 +64,7 @@ public final class TextTests {
 
     private static void goodTexts() {
         good("colours 1;vertex;", 1, "./0/0");
+        good("colours 1 passes 0; vertex;", 1, "./0/0");
         good("   colours   1   ;   vertex   ;   ", 1, "./0/0");
         good("colours2passes9;vertexa;".replace("vertexa", "vertex a"), 1, "./0/9");
         good("colours 02 passes 0009; vertex ba; vertex b; edge 00 01; lay 1b; lay0a; pass;", 2, "ab/1/8");
@@ -80,6 +82,7 @@ public final class TextTests {
         bad(ColourDuel.SYNTAX_ERROR, "    ^");
         bad(ColourDuel.SYNTAX_ERROR, "^colour 1; vertex;");
         bad(ColourDuel.SYNTAX_ERROR, "^coloursa 1; vertex;");
+        bad(ColourDuel.SYNTAX_ERROR, "^dolours 1; vertex;");
         bad(ColourDuel.SYNTAX_ERROR, "^Colours 1; vertex;");
         bad(ColourDuel.SYNTAX_ERROR, "^1; vertex;");
         bad(ColourDuel.SYNTAX_ERROR, "colours ^; vertex;");
@@ -209,6 +212,26 @@ public final class TextTests {
         Check.due("the pass is used", x.count(3), 0);
         ColourDuel banned = Check.board("colours 2; vertex; vertex; vertex; edge 0 1; edge 1 2; lay 0 a;");
         Check.due("a lay of the text makes a ban", banned.part(0, 2), 0);
+    }
+
+    private static void startsAnew() {
+        ColourDuel x = Check.board("colours 3 passes 4; vertex a; vertex b; vertex; vertex;"
+                + " edge 0 1; edge 2 3; pass; lay 3 c; lay 0 a;");
+        Check.due("a smaller board", Check.load(x, "colours 3; vertex; vertex; edge 0 1;"), 2);
+        int[] counts = {2, 1, 3, 0, 2, 1, 0, 0, 0, -1, 6, 0, 0};
+        for (int what = 0; what < counts.length; what++) {
+            Check.due("nothing of the old one: " + what, x.count(what), counts[what]);
+        }
+        Check.due("nor its bans", x.part(0, 2), ColourDuel.NONE);
+        Check.due("nor its lists", x.vertex(0, 1) + x.vertex(1, 1), 14);
+        Check.throwsIndex("nor its moves", () -> x.move(0, 0));
+        Check.due("an error behind many moves", Check.load(x,
+                "colours 3 passes 4; vertex; vertex; vertex; edge 0 1; edge 1 2; lay 0 c; pass; x"), -2);
+        Check.due("and nothing of that", Check.load(x,
+                "colours 3; vertex; vertex; vertex; edge 1 0; edge 2 1; lay 2 c;"), 3);
+        Check.due("one move", x.count(7), 1);
+        Check.due("one vertex is not free", Check.written(x), "..c/1/0");
+        Check.due("four lays", x.count(10), 4);
     }
 
     private static void writing() {

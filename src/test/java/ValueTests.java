@@ -39,6 +39,16 @@ public final class ValueTests {
                 "colours 2; vertex; vertex; edge 0 1;").value(), 0);
         Check.due("one colour and a pair", Check.board(
                 "colours 1; vertex; vertex; edge 0 1;").value(), 1);
+        Check.due("the third colour is not banned at first", Check.board(
+                "colours 3; vertex c; vertex c; edge 0 1;").value(), 1);
+        ColourDuel banned = Check.board("colours 3; vertex; vertex; vertex c; edge 0 1; edge 1 2;");
+        banned.lay(0, 2);
+        Check.due("b and a in the middle leave c: 1; c at the end is banned", banned.value(), 0);
+        ColourDuel nine = Check.board("colours 1;vertex;vertex;vertex;vertex;vertex;vertex;vertex;"
+                + "vertex;vertex;");
+        Check.due("nine points", nine.value(), 1);
+        Check.due("nine parts", nine.count(5), 9);
+        Check.due("the ninth part", nine.part(8, 1), 8);
     }
 
     private static void valuesIf() {
@@ -46,6 +56,8 @@ public final class ValueTests {
         Check.due("in the middle", x.valueIf(1, 0), 1);
         Check.due("at the end", x.valueIf(0, 1), 3);
         Check.due("nothing was laid", x.count(7), 0);
+        Check.due("equal values make 0", Check.board(
+                "colours 1 passes 1; vertex; vertex;").valueIf(1, 0), 0);
         x.lay(0, 0);
         Check.throwsNoElement("not free", () -> x.valueIf(0, 1));
         Check.throwsNoElement("a neighbour", () -> x.valueIf(1, 0));
@@ -63,6 +75,8 @@ public final class ValueTests {
         ColourDuel x = Check.board(ROW);
         Check.due("a lost board", x.winningMoves(), 0);
         Check.due("no colours", x.winningColours(1), 0);
+        x.setPasses(0);
+        Check.due("the middle wins without passes", x.winningMoves(), 2);
         x.setPasses(2);
         Check.due("the middle wins", x.winningMoves(), 3);
         Check.due("with both colours", x.winningColours(1), 3);
@@ -131,6 +145,11 @@ public final class ValueTests {
         Check.due("a leaf bans the other leaves", banned.longest(), 1);
         banned.lay(1, 0);
         Check.due("so it is over", banned.count(9), 0);
+        ColourDuel nine = Check.board("colours 2; vertex a;vertex b;vertex b;vertex b;vertex b;"
+                + "vertex b;vertex b;vertex b;vertex b;edge 0 1;edge 0 2;edge 0 3;edge 0 4;"
+                + "edge 0 5;edge 0 6;edge 0 7;edge 0 8;");
+        Check.due("after one leaf the middle must come", nine.shortest(), 9);
+        Check.due("so all games are as long", nine.longest(), 9);
         ColourDuel over = Check.board("colours 1; vertex; vertex; edge 0 1; lay 1 a;");
         Check.due("none", over.longest(), 0);
         Check.due("none at all", over.shortest(), 0);
@@ -178,6 +197,12 @@ public final class ValueTests {
         Check.throwsNoElement("not free", () -> row.valueWithout(0));
         Check.throwsIndex("vertex -1", () -> row.valueWithout(-1));
         Check.throwsIndex("vertex 5", () -> row.valueWithout(5));
+        ColourDuel banned = Check.board(
+                "colours 1; vertex; vertex; vertex; edge 0 1; edge 1 2; lay 0 a;");
+        Check.due("nothing can be laid under the ban", banned.value(), 0);
+        Check.due("but on a vertex that is left alone", banned.valueWithout(1), 1);
+        Check.due("and the pass with it", Check.board("colours 1 passes 1; vertex; vertex; vertex;"
+                + " edge 0 1; edge 1 2; lay 0 a;").valueWithout(1), 0);
         Check.due("the last vertex", Check.board("colours 1 passes 3; vertex;").valueWithout(0), 1);
     }
 
@@ -203,6 +228,17 @@ public final class ValueTests {
         x.undo();
         Check.due("the pair again", x.value(), 1);
         Check.due("its longest game", x.longest(), 1);
+        ColourDuel row = Check.board("colours 2; vertex; vertex; vertex; edge 0 1; edge 1 2;");
+        row.save(0);
+        Check.due("a row", row.value(), 1);
+        Check.load(row, "colours 2; vertex; vertex; vertex; edge 0 1; edge 1 2; edge 2 0;");
+        Check.due("a triangle, asked behind the row", row.value(), 0);
+        row.restore(0);
+        Check.due("the row of the slot", row.value(), 1);
+        row.undo();
+        Check.due("the triangle again", row.value(), 0);
+        row.undo();
+        Check.due("the row again", row.value(), 1);
     }
 
     private static void bigBoards() {
