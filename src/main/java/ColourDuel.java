@@ -361,6 +361,7 @@ public final class ColourDuel {
     }
 
     private boolean passWins() {
+        // the passes are worth 0 and 1 in turn, so one less turns that bit
         int behind = valueIn(solver.ofPartsIn(board.free)) ^ board.passValue() ^ 1;
         return board.passes > 0 && behind == 0;
     }

@@ -2,7 +2,7 @@ import java.util.Random;
 
 /** Long runs of calls, always the same ones, whose answers the model tells. */
 public final class ModelRuns {
-    private static final int RUNS = 700;
+    private static final int RUNS = 2500;
     private static final int CALLS = 512;
 
     private final Random random;

@@ -201,6 +201,8 @@ public final class ValueTests {
                 "colours 1; vertex; vertex; vertex; edge 0 1; edge 1 2; lay 0 a;");
         Check.due("nothing can be laid under the ban", banned.value(), 0);
         Check.due("but on a vertex that is left alone", banned.valueWithout(1), 1);
+        Check.due("the same at the other end", Check.board("colours 1; vertex; vertex; vertex;"
+                + " edge 0 1; edge 1 2; lay 2 a;").valueWithout(1), 1);
         Check.due("and the pass with it", Check.board("colours 1 passes 1; vertex; vertex; vertex;"
                 + " edge 0 1; edge 1 2; lay 0 a;").valueWithout(1), 0);
         Check.due("the last vertex", Check.board("colours 1 passes 3; vertex;").valueWithout(0), 1);
