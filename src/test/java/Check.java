@@ -1,9 +1,17 @@
+import java.util.function.IntFunction;
+
 /** What the tests share: they count what is not as due, and load boards from texts. */
 final class Check {
     interface Call {
         Object run();
     }
 
+    /** Numbers at both ends of int, and some that shifts and casts would take for small ones. */
+    private static final int[] FAR = {Integer.MIN_VALUE, Integer.MIN_VALUE + 1, -256, -32, -2, -1,
+        31, 32, 33, 64, 255, 256, 257, 65536, Integer.MAX_VALUE - 1, Integer.MAX_VALUE};
+
+    /** What the answers are asked for; it stands before each that is not as due. */
+    static String about = "";
     private static int done = 0;
     private static int wrong = 0;
 
@@ -14,8 +22,12 @@ final class Check {
         done++;
         if (!want.equals(got)) {
             wrong++;
-            System.out.println(what + " answered " + got + ", due is " + want);
+            System.out.println(about + what + " answered " + got + ", due is " + want);
         }
+    }
+
+    static int done() {
+        return done;
     }
 
     /** The answer of a call, or the class of what it throws. */
@@ -41,6 +53,37 @@ final class Check {
 
     static void throwsNoElement(String what, Call call) {
         due(what, outcome(call), java.util.NoSuchElementException.class);
+    }
+
+    /** The indices 0 to n - 1 are there; those next to them and far off are not. */
+    static void indices(String what, int n, IntFunction<Object> call) {
+        for (int k = 0; k < n; k++) {
+            int there = k;
+            due(what + " " + k + " is there", IndexOutOfBoundsException.class
+                    .equals(outcome(() -> call.apply(there))), false);
+        }
+        throwsIndex(what + " " + n, () -> call.apply(n));
+        for (int far : FAR) {
+            if (far < 0 || far > n) {
+                throwsIndex(what + " " + far, () -> call.apply(far));
+            }
+        }
+    }
+
+    /** The numbers from least to most are taken; those next to them and far off are not. */
+    static void numbers(String what, int least, int most, IntFunction<Object> call) {
+        for (int k = least; k <= most; k++) {
+            int taken = k;
+            due(what + " " + k + " is taken", IllegalArgumentException.class
+                    .equals(outcome(() -> call.apply(taken))), false);
+        }
+        throwsArgument(what + " " + (least - 1), () -> call.apply(least - 1));
+        throwsArgument(what + " " + (most + 1), () -> call.apply(most + 1));
+        for (int far : FAR) {
+            if (far < least || far > most) {
+                throwsArgument(what + " " + far, () -> call.apply(far));
+            }
+        }
     }
 
     /** Appends a text, filled up with spaces to whole blocks of 20 bytes. */
@@ -69,6 +112,29 @@ final class Check {
             due("load of " + text + " at " + x.errorPosition(), vertices, "a number of vertices");
         }
         return x;
+    }
+
+    /** So many vertices without lists, as a text of a board tells them. */
+    static String vertices(int n) {
+        return "vertex;".repeat(n);
+    }
+
+    static void good(String text, int vertices, String written) {
+        ColourDuel x = new ColourDuel();
+        due("load of " + text, load(x, text), vertices);
+        due("error of " + text, x.errorPosition(), ColourDuel.NONE);
+        due("board of " + text, written(x), written);
+    }
+
+    /** The roof stands where the error is due. */
+    static void bad(int code, String marked) {
+        int position = marked.indexOf('^');
+        String text = marked.replace("^", "");
+        ColourDuel x = new ColourDuel();
+        due("load of " + text, load(x, text), code);
+        due("error of " + text, x.errorPosition(), position);
+        due("board behind " + text, written(x), "./0/0");
+        throwsState("no change by " + text, () -> x.undo());
     }
 
     static String written(ColourDuel x) {

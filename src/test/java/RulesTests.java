@@ -69,6 +69,8 @@ public final class RulesTests {
         Check.due("imports", imports, List.of("java.util.NoSuchElementException"));
         Check.due("while (true) and for (;;)", count("while \\(true\\)|for \\(;;\\)", code), 0);
         longMethods(source);
+        sizes();
+        thrown(code);
         Check.end("RulesTests");
     }
 
@@ -118,6 +120,38 @@ public final class RulesTests {
         }
         return m.getReturnType().getSimpleName() + " " + m.getName() + "("
                 + String.join(",", parameters) + ") " + String.join(",", thrown);
+    }
+
+    private static void sizes() {
+        List<Class<?>> classes = new ArrayList<>(List.of(ColourDuel.class.getDeclaredClasses()));
+        classes.add(ColourDuel.class);
+        Check.due("at most twelve classes", classes.size() <= 12, true);
+        for (Class<?> one : classes) {
+            int fields = 0;
+            for (Field f : one.getDeclaredFields()) {
+                boolean ofClass = Modifier.isStatic(f.getModifiers());
+                fields += ofClass ? 0 : 1;
+                Check.due(f + " is final", !ofClass || Modifier.isFinal(f.getModifiers()), true);
+            }
+            Check.due("fields of " + one, fields <= 20, true);
+            for (Method m : one.getDeclaredMethods()) {
+                Check.due("parameters of " + m, m.getParameterCount() <= 7, true);
+            }
+            Check.due("classes inside " + one, one == ColourDuel.class
+                    || one.getDeclaredClasses().length == 0, true);
+        }
+    }
+
+    /** What is thrown is new, is of a class that is allowed, and has a written text at most. */
+    private static void thrown(String code) {
+        Set<String> allowed = Set.of("IllegalStateException", "IllegalArgumentException",
+                "IndexOutOfBoundsException", "ArithmeticException", "UnsupportedOperationException",
+                "NoSuchElementException", "RuntimeException");
+        List<String> thrown = found("\\bthrow new (\\w+)\\((?:\"[^\"]*\")?\\);", code);
+        Check.due("all that is thrown is new", thrown.size(), count("\\bthrow\\b", code));
+        for (String one : thrown) {
+            Check.due(one + " may be thrown", allowed.contains(one), true);
+        }
     }
 
     private static String withoutComments(String source) {

@@ -44,146 +44,128 @@ public final class TextTests {
         Check.due("a wrong length is no call that found something", x.errorPosition(), 0);
     }
 
-    private static void good(String text, int vertices, String written) {
-        ColourDuel x = new ColourDuel();
-        Check.due("load of " + text, Check.load(x, text), vertices);
-        Check.due("error of " + text, x.errorPosition(), ColourDuel.NONE);
-        Check.due("board of " + text, Check.written(x), written);
-    }
-
-    /** The roof stands where the error is due. */
-    private static void bad(int code, String marked) {
-        int position = marked.indexOf('^');
-        String text = marked.replace("^", "");
-        ColourDuel x = new ColourDuel();
-        Check.due("load of " + text, Check.load(x, text), code);
-        Check.due("error of " + text, x.errorPosition(), position);
-        Check.due("board behind " + text, Check.written(x), "./0/0");
-        Check.throwsState("no change by " + text, () -> x.undo());
-    }
-
     private static void goodTexts() {
-        good("colours 1;vertex;", 1, "./0/0");
-        good("colours 1 passes 0; vertex;", 1, "./0/0");
-        good("   colours   1   ;   vertex   ;   ", 1, "./0/0");
-        good("colours2passes9;vertexa;".replace("vertexa", "vertex a"), 1, "./0/9");
-        good("colours 02 passes 0009; vertex ba; vertex b; edge 00 01; lay 1b; lay0a; pass;", 2, "ab/1/8");
-        good("colours 3; vertex cab; vertex c; vertex; lay 2 c;", 3, "..c/1/0");
-        good("colours 1; vertex; pass".replace(" pass", ""), 1, "./0/0");
-        good("colours 1 passes 2; vertex; pass; lay 0 a; pass;", 1, "a/1/0");
-        good("colours 2; vertex;vertex;vertex;vertex;vertex;vertex;vertex;vertex;vertex; edge 8 0;",
+        Check.good("colours 1;vertex;", 1, "./0/0");
+        Check.good("colours 1 passes 0; vertex;", 1, "./0/0");
+        Check.good("   colours   1   ;   vertex   ;   ", 1, "./0/0");
+        Check.good("colours2passes9;vertexa;".replace("vertexa", "vertex a"), 1, "./0/9");
+        Check.good("colours 02 passes 0009; vertex ba; vertex b; edge 00 01; lay 1b; lay0a; pass;", 2, "ab/1/8");
+        Check.good("colours 3; vertex cab; vertex c; vertex; lay 2 c;", 3, "..c/1/0");
+        Check.good("colours 1; vertex; pass".replace(" pass", ""), 1, "./0/0");
+        Check.good("colours 1 passes 2; vertex; pass; lay 0 a; pass;", 1, "a/1/0");
+        Check.good("colours 2; vertex;vertex;vertex;vertex;vertex;vertex;vertex;vertex;vertex; edge 8 0;",
                 9, "........./0/0");
-        good("colours 3; vertex;vertex;vertex;vertex;vertex;vertex;vertex;", 7, "......./0/0");
-        good("colours 00000000000000000000001; vertex;", 1, "./0/0");
+        Check.good("colours 3; vertex;vertex;vertex;vertex;vertex;vertex;vertex;", 7, "......./0/0");
+        Check.good("colours 00000000000000000000001; vertex;", 1, "./0/0");
     }
 
     private static void heads() {
-        bad(ColourDuel.SYNTAX_ERROR, "^");
-        bad(ColourDuel.SYNTAX_ERROR, "    ^");
-        bad(ColourDuel.SYNTAX_ERROR, "^colour 1; vertex;");
-        bad(ColourDuel.SYNTAX_ERROR, "^coloursa 1; vertex;");
-        bad(ColourDuel.SYNTAX_ERROR, "^dolours 1; vertex;");
-        bad(ColourDuel.SYNTAX_ERROR, "^Colours 1; vertex;");
-        bad(ColourDuel.SYNTAX_ERROR, "^1; vertex;");
-        bad(ColourDuel.SYNTAX_ERROR, "colours ^; vertex;");
-        bad(ColourDuel.SYNTAX_ERROR, "colours ^a; vertex;");
-        bad(ColourDuel.SYNTAX_ERROR, "colours ^-1; vertex;");
-        bad(ColourDuel.SYNTAX_ERROR, "colours^");
-        bad(ColourDuel.VALUE_ERROR, "colours ^0; vertex;");
-        bad(ColourDuel.VALUE_ERROR, "colours ^4; vertex;");
-        bad(ColourDuel.VALUE_ERROR, "colours ^4294967297; vertex;");
-        bad(ColourDuel.VALUE_ERROR, "colours ^18446744073709551617; vertex;");
-        bad(ColourDuel.SYNTAX_ERROR, "colours 1 ^vertex;");
-        bad(ColourDuel.SYNTAX_ERROR, "colours 1 ^2; vertex;");
-        bad(ColourDuel.SYNTAX_ERROR, "colours 1 passes ^; vertex;");
-        bad(ColourDuel.VALUE_ERROR, "colours 1 passes ^10; vertex;");
-        bad(ColourDuel.SYNTAX_ERROR, "colours 1 passes 1 ^passes 1; vertex;");
-        bad(ColourDuel.SYNTAX_ERROR, "colours 1^.; vertex;");
-        bad(ColourDuel.SYNTAX_ERROR, "colours 1;^\tvertex;");
-        bad(ColourDuel.SYNTAX_ERROR, "colours 1^");
-        bad(ColourDuel.SYNTAX_ERROR, "colours 1 passes 1  ^");
+        Check.bad(ColourDuel.SYNTAX_ERROR, "^");
+        Check.bad(ColourDuel.SYNTAX_ERROR, "    ^");
+        Check.bad(ColourDuel.SYNTAX_ERROR, "^colour 1; vertex;");
+        Check.bad(ColourDuel.SYNTAX_ERROR, "^coloursa 1; vertex;");
+        Check.bad(ColourDuel.SYNTAX_ERROR, "^dolours 1; vertex;");
+        Check.bad(ColourDuel.SYNTAX_ERROR, "^Colours 1; vertex;");
+        Check.bad(ColourDuel.SYNTAX_ERROR, "^1; vertex;");
+        Check.bad(ColourDuel.SYNTAX_ERROR, "colours ^; vertex;");
+        Check.bad(ColourDuel.SYNTAX_ERROR, "colours ^a; vertex;");
+        Check.bad(ColourDuel.SYNTAX_ERROR, "colours ^-1; vertex;");
+        Check.bad(ColourDuel.SYNTAX_ERROR, "colours^");
+        Check.bad(ColourDuel.VALUE_ERROR, "colours ^0; vertex;");
+        Check.bad(ColourDuel.VALUE_ERROR, "colours ^4; vertex;");
+        Check.bad(ColourDuel.VALUE_ERROR, "colours ^4294967297; vertex;");
+        Check.bad(ColourDuel.VALUE_ERROR, "colours ^18446744073709551617; vertex;");
+        Check.bad(ColourDuel.SYNTAX_ERROR, "colours 1 ^vertex;");
+        Check.bad(ColourDuel.SYNTAX_ERROR, "colours 1 ^2; vertex;");
+        Check.bad(ColourDuel.SYNTAX_ERROR, "colours 1 passes ^; vertex;");
+        Check.bad(ColourDuel.VALUE_ERROR, "colours 1 passes ^10; vertex;");
+        Check.bad(ColourDuel.SYNTAX_ERROR, "colours 1 passes 1 ^passes 1; vertex;");
+        Check.bad(ColourDuel.SYNTAX_ERROR, "colours 1^.; vertex;");
+        Check.bad(ColourDuel.SYNTAX_ERROR, "colours 1;^\tvertex;");
+        Check.bad(ColourDuel.SYNTAX_ERROR, "colours 1^");
+        Check.bad(ColourDuel.SYNTAX_ERROR, "colours 1 passes 1  ^");
     }
 
     private static void vertices() {
-        bad(ColourDuel.SYNTAX_ERROR, "colours 1; ^");
-        bad(ColourDuel.SYNTAX_ERROR, "colours 1; ^edge 0 1;");
-        bad(ColourDuel.SYNTAX_ERROR, "colours 1; ^pass;");
-        bad(ColourDuel.SYNTAX_ERROR, "colours 1; ^; vertex;");
-        bad(ColourDuel.SYNTAX_ERROR, "colours 1; ^vertexa;");
-        bad(ColourDuel.SYNTAX_ERROR, "colours 1; vertex^");
-        bad(ColourDuel.SYNTAX_ERROR, "colours 1; vertex ^0;");
-        bad(ColourDuel.SYNTAX_ERROR, "colours 1; vertex a ^a;");
-        bad(ColourDuel.SYNTAX_ERROR, "colours 1; vertex a^A;");
-        bad(ColourDuel.VALUE_ERROR, "colours 1; vertex ^b;");
-        bad(ColourDuel.VALUE_ERROR, "colours 1; vertex ^vertex;");
-        bad(ColourDuel.VALUE_ERROR, "colours 2; vertex ^c;");
-        bad(ColourDuel.VALUE_ERROR, "colours 2; vertex ^abc;");
-        bad(ColourDuel.VALUE_ERROR, "colours 3; vertex ^abca");
-        bad(ColourDuel.VALUE_ERROR, "colours 3; vertex ^d;");
-        bad(ColourDuel.VALUE_ERROR, "colours 3; vertex ^z;");
-        bad(ColourDuel.SYNTAX_ERROR, "colours 1; vertex; ^;");
-        bad(ColourDuel.SYNTAX_ERROR, "colours 1; vertex; ^colours 1;");
-        bad(ColourDuel.SYNTAX_ERROR, "colours 1; vertex; ^a;");
-        bad(ColourDuel.SYNTAX_ERROR, "colours 1; vertex; ^7");
+        Check.bad(ColourDuel.SYNTAX_ERROR, "colours 1; ^");
+        Check.bad(ColourDuel.SYNTAX_ERROR, "colours 1; ^edge 0 1;");
+        Check.bad(ColourDuel.SYNTAX_ERROR, "colours 1; ^pass;");
+        Check.bad(ColourDuel.SYNTAX_ERROR, "colours 1; ^; vertex;");
+        Check.bad(ColourDuel.SYNTAX_ERROR, "colours 1; ^vertexa;");
+        Check.bad(ColourDuel.SYNTAX_ERROR, "colours 1; vertex^");
+        Check.bad(ColourDuel.SYNTAX_ERROR, "colours 1; vertex ^0;");
+        Check.bad(ColourDuel.SYNTAX_ERROR, "colours 1; vertex a ^a;");
+        Check.bad(ColourDuel.SYNTAX_ERROR, "colours 1; vertex a^A;");
+        Check.bad(ColourDuel.VALUE_ERROR, "colours 1; vertex ^b;");
+        Check.bad(ColourDuel.VALUE_ERROR, "colours 1; vertex ^vertex;");
+        Check.bad(ColourDuel.VALUE_ERROR, "colours 2; vertex ^c;");
+        Check.bad(ColourDuel.VALUE_ERROR, "colours 2; vertex ^abc;");
+        Check.bad(ColourDuel.VALUE_ERROR, "colours 3; vertex ^abca");
+        Check.bad(ColourDuel.VALUE_ERROR, "colours 3; vertex ^d;");
+        Check.bad(ColourDuel.VALUE_ERROR, "colours 3; vertex ^z;");
+        Check.bad(ColourDuel.SYNTAX_ERROR, "colours 1; vertex; ^;");
+        Check.bad(ColourDuel.SYNTAX_ERROR, "colours 1; vertex; ^colours 1;");
+        Check.bad(ColourDuel.SYNTAX_ERROR, "colours 1; vertex; ^a;");
+        Check.bad(ColourDuel.SYNTAX_ERROR, "colours 1; vertex; ^7");
     }
 
     private static void tooMany() {
         String seven = "vertex; vertex; vertex; vertex; vertex; vertex; vertex; ";
-        bad(ColourDuel.TOO_MANY, "colours 3; " + seven + "^vertex d;");
-        bad(ColourDuel.TOO_MANY, "colours 2; vertex; vertex; " + seven + "^vertex;");
-        bad(ColourDuel.TOO_MANY, "colours 1; vertex; vertex; " + seven + "^vertex;");
-        bad(ColourDuel.SYNTAX_ERROR, "colours 3; " + seven + "^vertexx;");
+        Check.bad(ColourDuel.TOO_MANY, "colours 3; " + seven + "^vertex d;");
+        Check.bad(ColourDuel.TOO_MANY, "colours 2; vertex; vertex; " + seven + "^vertex;");
+        Check.bad(ColourDuel.TOO_MANY, "colours 1; vertex; vertex; " + seven + "^vertex;");
+        Check.bad(ColourDuel.SYNTAX_ERROR, "colours 3; " + seven + "^vertexx;");
     }
 
     private static void edges() {
         String three = "colours 2; vertex; vertex; vertex; ";
-        bad(ColourDuel.SYNTAX_ERROR, three + "edge ^;");
-        bad(ColourDuel.SYNTAX_ERROR, three + "edge 01^;");
-        bad(ColourDuel.SYNTAX_ERROR, three + "edge 0 ^a;");
-        bad(ColourDuel.SYNTAX_ERROR, three + "edge 0 1 ^2;");
-        bad(ColourDuel.SYNTAX_ERROR, three + "edge 0 1^");
-        bad(ColourDuel.SYNTAX_ERROR, three + "edge 0 1; ^vertex;");
-        bad(ColourDuel.VALUE_ERROR, three + "edge ^3 3;");
-        bad(ColourDuel.VALUE_ERROR, three + "edge ^3 a;");
-        bad(ColourDuel.VALUE_ERROR, three + "edge 2 ^3;");
-        bad(ColourDuel.VALUE_ERROR, three + "edge 2 ^2;");
-        bad(ColourDuel.VALUE_ERROR, three + "edge 2 ^4294967296;");
-        bad(ColourDuel.VALUE_ERROR, three + "edge 0 2; edge 0 ^34;");
-        bad(ColourDuel.TWICE, three + "edge 0 1; edge 0 ^1;");
-        bad(ColourDuel.TWICE, three + "edge 0 1; edge 1 ^0;");
-        bad(ColourDuel.TWICE, three + "edge 0 1; edge 1 2; edge 2 0; edge 2 ^01 junk");
+        Check.bad(ColourDuel.SYNTAX_ERROR, three + "edge ^;");
+        Check.bad(ColourDuel.SYNTAX_ERROR, three + "edge 01^;");
+        Check.bad(ColourDuel.SYNTAX_ERROR, three + "edge 0 ^a;");
+        Check.bad(ColourDuel.SYNTAX_ERROR, three + "edge 0 1 ^2;");
+        Check.bad(ColourDuel.SYNTAX_ERROR, three + "edge 0 1^");
+        Check.bad(ColourDuel.SYNTAX_ERROR, three + "edge 0 1; ^vertex;");
+        Check.bad(ColourDuel.VALUE_ERROR, three + "edge ^3 3;");
+        Check.bad(ColourDuel.VALUE_ERROR, three + "edge ^3 a;");
+        Check.bad(ColourDuel.VALUE_ERROR, three + "edge 2 ^3;");
+        Check.bad(ColourDuel.VALUE_ERROR, three + "edge 2 ^2;");
+        Check.bad(ColourDuel.VALUE_ERROR, three + "edge 2 ^4294967296;");
+        Check.bad(ColourDuel.VALUE_ERROR, three + "edge 0 2; edge 0 ^34;");
+        Check.bad(ColourDuel.TWICE, three + "edge 0 1; edge 0 ^1;");
+        Check.bad(ColourDuel.TWICE, three + "edge 0 1; edge 1 ^0;");
+        Check.bad(ColourDuel.TWICE, three + "edge 0 1; edge 1 2; edge 2 0; edge 2 ^01 junk");
     }
 
     private static void moves() {
         String pair = "colours 2 passes 1; vertex; vertex b; vertex; edge 0 1; edge 2 1; ";
-        bad(ColourDuel.SYNTAX_ERROR, pair + "lay ^a 0;");
-        bad(ColourDuel.SYNTAX_ERROR, pair + "lay 0 ^1;");
-        bad(ColourDuel.SYNTAX_ERROR, pair + "lay 0^;");
-        bad(ColourDuel.SYNTAX_ERROR, pair + "lay 0 a^");
-        bad(ColourDuel.SYNTAX_ERROR, pair + "lay 0 a ^b;");
-        bad(ColourDuel.SYNTAX_ERROR, pair + "lay 0 a; ^edge 0 2;");
-        bad(ColourDuel.SYNTAX_ERROR, pair + "pass ^1;");
-        bad(ColourDuel.SYNTAX_ERROR, pair + "^pas;");
-        bad(ColourDuel.SYNTAX_ERROR, pair + "pass; ^vertex;");
-        bad(ColourDuel.VALUE_ERROR, pair + "lay ^3 a;");
-        bad(ColourDuel.VALUE_ERROR, pair + "lay 0 ^c;");
-        bad(ColourDuel.VALUE_ERROR, pair + "lay 0 ^ab;");
-        bad(ColourDuel.VALUE_ERROR, pair + "lay 0 ^aa;");
-        bad(ColourDuel.REFUSED, pair + "lay 1 ^a;");
-        bad(ColourDuel.REFUSED, pair + "lay 0 a; lay 0 ^b;");
-        bad(ColourDuel.REFUSED, pair + "lay 0 b; lay 1 ^b;");
-        bad(ColourDuel.REFUSED, pair + "lay 0 a; lay 2 ^a;");
-        bad(ColourDuel.REFUSED, pair + "pass; ^pass;");
-        bad(ColourDuel.REFUSED, pair + "pass; lay 0 a; ^pass 1");
-        bad(ColourDuel.VALUE_ERROR, pair + "lay 0 a; lay 0 ^c;");
-        good(pair + "lay 1 b; lay 0 a; pass; lay 2 a;", 3, "aba/0/0");
+        Check.bad(ColourDuel.SYNTAX_ERROR, pair + "lay ^a 0;");
+        Check.bad(ColourDuel.SYNTAX_ERROR, pair + "lay 0 ^1;");
+        Check.bad(ColourDuel.SYNTAX_ERROR, pair + "lay 0^;");
+        Check.bad(ColourDuel.SYNTAX_ERROR, pair + "lay 0 a^");
+        Check.bad(ColourDuel.SYNTAX_ERROR, pair + "lay 0 a ^b;");
+        Check.bad(ColourDuel.SYNTAX_ERROR, pair + "lay 0 a; ^edge 0 2;");
+        Check.bad(ColourDuel.SYNTAX_ERROR, pair + "pass ^1;");
+        Check.bad(ColourDuel.SYNTAX_ERROR, pair + "^pas;");
+        Check.bad(ColourDuel.SYNTAX_ERROR, pair + "pass; ^vertex;");
+        Check.bad(ColourDuel.VALUE_ERROR, pair + "lay ^3 a;");
+        Check.bad(ColourDuel.VALUE_ERROR, pair + "lay 0 ^c;");
+        Check.bad(ColourDuel.VALUE_ERROR, pair + "lay 0 ^ab;");
+        Check.bad(ColourDuel.VALUE_ERROR, pair + "lay 0 ^aa;");
+        Check.bad(ColourDuel.REFUSED, pair + "lay 1 ^a;");
+        Check.bad(ColourDuel.REFUSED, pair + "lay 0 a; lay 0 ^b;");
+        Check.bad(ColourDuel.REFUSED, pair + "lay 0 b; lay 1 ^b;");
+        Check.bad(ColourDuel.REFUSED, pair + "lay 0 a; lay 2 ^a;");
+        Check.bad(ColourDuel.REFUSED, pair + "pass; ^pass;");
+        Check.bad(ColourDuel.REFUSED, pair + "pass; lay 0 a; ^pass 1");
+        Check.bad(ColourDuel.VALUE_ERROR, pair + "lay 0 a; lay 0 ^c;");
+        Check.good(pair + "lay 1 b; lay 0 a; pass; lay 2 a;", 3, "aba/0/0");
     }
 
     private static void ends() {
-        bad(ColourDuel.SYNTAX_ERROR, "colours 1; vertex; lay 0 a; ^;");
-        bad(ColourDuel.SYNTAX_ERROR, "colours 1; vertex; lay 0 a;   ^\u0000");
-        bad(ColourDuel.SYNTAX_ERROR, "colours 1; vertex; ^\u00e1");
-        good("colours 1; vertex; lay 0 a;    ", 1, "a/1/0");
+        Check.bad(ColourDuel.SYNTAX_ERROR, "colours 1; vertex; lay 0 a; ^;");
+        Check.bad(ColourDuel.SYNTAX_ERROR, "colours 1; vertex; lay 0 a;   ^\u0000");
+        Check.bad(ColourDuel.SYNTAX_ERROR, "colours 1; vertex; ^\u00e1");
+        Check.good("colours 1; vertex; lay 0 a;    ", 1, "a/1/0");
     }
 
     private static void afterAnError() {
