@@ -34,9 +34,9 @@ public final class ColourDuel {
     private int loads;
 
     public ColourDuel() {
-        board = new Board();
-        solver = new Solver(board);
-        reader = new Reader(new Board());
+        solver = new Solver();
+        board = solver.board;
+        reader = new Reader();
         history = new History();
         slots = new Board[SLOTS];
         written = new byte[MOST_VERTICES + 4];
@@ -511,7 +511,9 @@ public final class ColourDuel {
             colours = 1;
             vertices = 1;
             free = 1;
-            add(listed, 0, 1);
+            for (int c = 0; c < colours && c < listed.length; c++) {
+                listed[c] = 1;
+            }
         }
 
         void takeFrom(Board other) {
@@ -626,7 +628,8 @@ public final class ColourDuel {
             for (int k = 0; k < MOST_VERTICES && fresh != 0; k++) {
                 int bit = fresh & -fresh;
                 int vertex = Integer.bitCount(bit - 1);
-                int found = vertex < near.length ? near[vertex] & set & ~reached : 0;
+                boolean known = vertex >= 0 && vertex < near.length;
+                int found = known ? near[vertex] & set & ~reached : 0;
                 reached |= found;
                 fresh = fresh & ~bit | found;
             }
@@ -819,7 +822,8 @@ public final class ColourDuel {
 
         void bringBack(Board board) {
             int last = next > 0 ? next - 1 : kept.length - 1;
-            if (held > 0 && last < kept.length && kept[last] != null) {
+            boolean known = last >= 0 && last < kept.length;
+            if (held > 0 && known && kept[last] != null) {
                 board.takeFrom(kept[last]);
                 next = last;
                 held--;
@@ -846,14 +850,11 @@ public final class ColourDuel {
         /** Near 2 to the power 64 divided by the golden ratio: spreads places over the cache. */
         private static final long SPREAD = 0x9E3779B97F4A7C15L;
 
-        private final Board board;
+        /** The board of the duel, which the solver looks at and never changes. */
+        final Board board = new Board();
         /** A cache that forgets: a new place drives out the one that stood where it goes. */
         private final long[] places = new long[1 << CACHE_BITS];
         private final int[] answers = new int[1 << CACHE_BITS];
-
-        Solver(Board board) {
-            this.board = board;
-        }
 
         /** The answer for all parts of the board inside a set of free vertices together. */
         int ofPartsIn(int set) {
@@ -960,7 +961,8 @@ public final class ColourDuel {
         /** Every number of this size or above is out of every range. */
         private static final int LARGE = 1000;
 
-        final Board draft;
+        /** The board as far as it is read, for the duel to take over if the text has no error. */
+        final Board draft = new Board();
         int filled;
         int errorAt = NONE;
         private final byte[] bytes = new byte[MOST_BYTES];
@@ -970,10 +972,6 @@ public final class ColourDuel {
         private int start;
         private int end;
         private int number;
-
-        Reader(Board draft) {
-            this.draft = draft;
-        }
 
         void addFour(int four) {
             for (int shift = 24; shift >= 0; shift -= 8) {

@@ -69,6 +69,7 @@ public final class RulesTests {
         Check.due("imports", imports, List.of("java.util.NoSuchElementException"));
         Check.due("while (true) and for (;;)", count("while \\(true\\)|for \\(;;\\)", code), 0);
         longMethods(source);
+        constructors(code);
         sizes();
         thrown(code);
         Check.end("RulesTests");
@@ -151,6 +152,16 @@ public final class RulesTests {
         Check.due("all that is thrown is new", thrown.size(), count("\\bthrow\\b", code));
         for (String one : thrown) {
             Check.due(one + " may be thrown", allowed.contains(one), true);
+        }
+    }
+
+    /** No constructor calls anything with an argument, so none hands out a part of its object. */
+    private static void constructors(String code) {
+        List<String> bodies = found("(?s)^ {4,8}(?:public )?[A-Z]\\w+\\([^)]*\\) \\{\n(.*?)^ {4,8}\\}$", code);
+        Check.due("constructors that are written out", bodies.size(), 3);
+        for (String body : bodies) {
+            Check.due("calls with arguments in a constructor", found("(\\w+\\([^)]+\\))", body), List.of());
+            Check.due("throws in a constructor", count("\\bthrow\\b", body), 0);
         }
     }
 
